@@ -212,18 +212,6 @@ public final class CliqueSearch {
         return (set >> v & 1) != 0;
     }
 
-    /** Whether set a comes before another set b in ORDER. */
-    private static boolean precedes(int a, int b) {
-        int unlike = a ^ b;
-        int first = unlike & -unlike;
-        int upToFirst = first | (first - 1);
-        // The set without the first unlike node either goes on with a greater one or ends there.
-        if ((a & first) != 0) {
-            return (b & ~upToFirst) != 0;
-        }
-        return unlike != 0 && (a & ~upToFirst) == 0;
-    }
-
     /** The nodes, their weights and their edges. */
     private static final class Net {
         private int nodes;
@@ -380,7 +368,8 @@ public final class CliqueSearch {
     private static final class MaximalSets {
         /** The most maximal cliques that 16 nodes can have: 3 * 3 * 3 * 3 * 4 (Moon and Moser). */
         private static final int MOST_SETS = 324;
-        private static final int HALF_OF_SETS = 256;
+        /** The greatest power of two that is not above MOST_SETS. */
+        private static final int WIDEST_STEP = 256;
 
         private final Net net;
         private final boolean reversed;
@@ -495,7 +484,7 @@ public final class CliqueSearch {
                 return;
             }
             int place = 0;
-            for (int step = HALF_OF_SETS; step > 0; step >>= 1) {
+            for (int step = WIDEST_STEP; step > 0; step >>= 1) {
                 if (place + step <= size && precedes(row[place + step - 1], set)) {
                     place += step;
                 }
@@ -503,6 +492,12 @@ public final class CliqueSearch {
             System.arraycopy(row, place, row, place + 1, size - place);
             row[place] = set;
             size++;
+        }
+
+        /** Whether a comes before b in ORDER; no maximal set is the beginning of another. */
+        private static boolean precedes(int a, int b) {
+            int unlike = a ^ b;
+            return (a & unlike & -unlike) != 0;
         }
     }
 
