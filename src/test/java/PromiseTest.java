@@ -41,44 +41,6 @@ public final class PromiseTest {
         check.due(call, want, got);
     }
 
-    /** A net of n nodes of weight 1 with these edges, two numbers each. */
-    private static CliqueSearch net(int n, int... ends) {
-        CliqueSearch x = new CliqueSearch();
-        for (int v = 0; v < n; v++) {
-            x.node(1);
-        }
-        for (int i = 0; i + 1 < ends.length; i += 2) {
-            x.edge(ends[i], ends[i + 1], true);
-        }
-        return x;
-    }
-
-    private static CliqueSearch fullNet(int n) {
-        CliqueSearch x = net(n);
-        for (int a = 0; a < n; a++) {
-            for (int b = 0; b < a; b++) {
-                x.edge(a, b, true);
-            }
-        }
-        return x;
-    }
-
-    private static CliqueSearch ring(int n) {
-        CliqueSearch x = net(n);
-        for (int a = 0; a < n; a++) {
-            x.edge(a, (a + 1) % n, true);
-        }
-        return x;
-    }
-
-    private static int set(int... nodes) {
-        int set = 0;
-        for (int v : nodes) {
-            set |= 1 << v;
-        }
-        return set;
-    }
-
     // 1
     private static void newObject() {
         CliqueSearch x = new CliqueSearch();
@@ -115,7 +77,7 @@ public final class PromiseTest {
 
     // 3
     private static void edge() {
-        CliqueSearch x = net(16);
+        CliqueSearch x = Nets.net(16);
         due("3 new", 0, x.edge(0, 15, true));
         due("3 it was", 1, x.edge(15, 0, true));
         due("3 count", 1, x.count(1));
@@ -134,12 +96,12 @@ public final class PromiseTest {
         due("3 a node that bits would wrap to", BAD, x.edge(32, 1, true));
         due("3 count behind wrong ones", 1, x.count(1));
         due("3 no nodes", BAD, new CliqueSearch().edge(0, 1, true));
-        due("3 one node", BAD, net(1).edge(0, 1, true));
+        due("3 one node", BAD, Nets.net(1).edge(0, 1, true));
     }
 
     // 4
     private static void weight() {
-        CliqueSearch x = net(2);
+        CliqueSearch x = Nets.net(2);
         due("4 what it was", 1, x.weight(0, 1000));
         due("4 and then", 1000, x.weight(0, 1));
         due("4 of the other", 1, x.weight(1, 30));
@@ -156,12 +118,12 @@ public final class PromiseTest {
 
     // 5
     private static void neighbours() {
-        CliqueSearch x = net(16, 0, 1, 0, 15, 7, 0);
-        due("5 of 0", set(1, 7, 15), x.neighbours(0));
-        due("5 of 15", set(0), x.neighbours(15));
+        CliqueSearch x = Nets.net(16, 0, 1, 0, 15, 7, 0);
+        due("5 of 0", Nets.set(1, 7, 15), x.neighbours(0));
+        due("5 of 15", Nets.set(0), x.neighbours(15));
         due("5 of 2", 0, x.neighbours(2));
         x.edge(1, 0, false);
-        due("5 one less", set(7, 15), x.neighbours(0));
+        due("5 one less", Nets.set(7, 15), x.neighbours(0));
         due("5 -1", BAD, x.neighbours(-1));
         due("5 16", BAD, x.neighbours(16));
         due("5 far off", BAD, x.neighbours(LEAST));
@@ -170,38 +132,38 @@ public final class PromiseTest {
     // 6
     private static void greatest() {
         due("6 no nodes", 0, new CliqueSearch().greatest());
-        due("6 one node", 1, net(1).greatest());
-        due("6 no edges", 1, net(16).greatest());
-        due("6 all joined", 65535, fullNet(16).greatest());
-        CliqueSearch x = net(6, 3, 4, 4, 5, 5, 3, 0, 1);
-        due("6 the greater one", set(3, 4, 5), x.greatest());
+        due("6 one node", 1, Nets.net(1).greatest());
+        due("6 no edges", 1, Nets.net(16).greatest());
+        due("6 all joined", 65535, Nets.fullNet(16).greatest());
+        CliqueSearch x = Nets.net(6, 3, 4, 4, 5, 5, 3, 0, 1);
+        due("6 the greater one", Nets.set(3, 4, 5), x.greatest());
         x.edge(1, 5, true);
         x.edge(0, 5, true);
-        due("6 the first of two", set(0, 1, 5), x.greatest());
+        due("6 the first of two", Nets.set(0, 1, 5), x.greatest());
         x.weight(3, 1000);
-        due("6 weights are nothing", set(0, 1, 5), x.greatest());
+        due("6 weights are nothing", Nets.set(0, 1, 5), x.greatest());
         x.edge(0, 5, false);
-        due("6 behind a change", set(3, 4, 5), x.greatest());
+        due("6 behind a change", Nets.set(3, 4, 5), x.greatest());
         // As numbers {1, 2} is 6 and {0, 3} is 9, but {0, 3} comes first.
-        due("6 order is not the number's", set(0, 3), net(4, 1, 2, 0, 3).greatest());
+        due("6 order is not the number's", Nets.set(0, 3), Nets.net(4, 1, 2, 0, 3).greatest());
     }
 
     // 7
     private static void heaviest() {
         due("7 no nodes", 0, new CliqueSearch().heaviest());
-        CliqueSearch x = net(5, 0, 1, 1, 2, 0, 2, 3, 4);
-        due("7 all of weight 1", set(0, 1, 2), x.heaviest());
+        CliqueSearch x = Nets.net(5, 0, 1, 1, 2, 0, 2, 3, 4);
+        due("7 all of weight 1", Nets.set(0, 1, 2), x.heaviest());
         x.weight(4, 3);
-        due("7 fewer nodes", set(3, 4), x.heaviest());
+        due("7 fewer nodes", Nets.set(3, 4), x.heaviest());
         x.weight(3, 1);
         x.weight(4, 2);
-        due("7 like ones: the first", set(0, 1, 2), x.heaviest());
+        due("7 like ones: the first", Nets.set(0, 1, 2), x.heaviest());
         x.weight(3, 1000);
-        due("7 by one weight", set(3, 4), x.heaviest());
-        CliqueSearch y = net(3, 1, 2);
+        due("7 by one weight", Nets.set(3, 4), x.heaviest());
+        CliqueSearch y = Nets.net(3, 1, 2);
         y.weight(0, 2);
-        due("7 like ones of unlike sizes", set(0), y.heaviest());
-        CliqueSearch z = fullNet(16);
+        due("7 like ones of unlike sizes", Nets.set(0), y.heaviest());
+        CliqueSearch z = Nets.fullNet(16);
         for (int v = 0; v < 16; v++) {
             z.weight(v, 1000);
         }
@@ -211,23 +173,12 @@ public final class PromiseTest {
     // 8
     private static void maximal() {
         due("8 no nodes", 1, new CliqueSearch().maximal());
-        due("8 one node", 1, net(1).maximal());
-        due("8 no edges", 16, net(16).maximal());
-        due("8 all joined", 1, fullNet(16).maximal());
-        due("8 a ring", 16, ring(16).maximal());
-        due("8 a ring of three", 1, ring(3).maximal());
-        due("8 the most there can be", 324, threesAndFour().maximal());
-    }
-
-    /** Parts of 3, 3, 3, 3 and 4 nodes, all joined but for those of a part. */
-    private static CliqueSearch threesAndFour() {
-        CliqueSearch x = net(16);
-        for (int a = 0; a < 16; a++) {
-            for (int b = 0; b < a; b++) {
-                x.edge(a, b, Math.min(a / 3, 4) != Math.min(b / 3, 4));
-            }
-        }
-        return x;
+        due("8 one node", 1, Nets.net(1).maximal());
+        due("8 no edges", 16, Nets.net(16).maximal());
+        due("8 all joined", 1, Nets.fullNet(16).maximal());
+        due("8 a ring", 16, Nets.ring(16).maximal());
+        due("8 a ring of three", 1, Nets.ring(3).maximal());
+        due("8 the most there can be", 324, Nets.parts(3, 3, 3, 3, 4).maximal());
     }
 
     // 9
@@ -235,24 +186,24 @@ public final class PromiseTest {
         CliqueSearch none = new CliqueSearch();
         due("9 no nodes, 0", 0, none.maximal(0));
         due("9 no nodes, 1", BAD, none.maximal(1));
-        CliqueSearch x = net(5, 0, 4, 0, 1, 1, 4, 1, 2, 2, 3);
+        CliqueSearch x = Nets.net(5, 0, 4, 0, 1, 1, 4, 1, 2, 2, 3);
         due("9 how many", 3, x.maximal());
-        due("9 first", set(0, 1, 4), x.maximal(0));
-        due("9 second", set(1, 2), x.maximal(1));
-        due("9 third", set(2, 3), x.maximal(2));
+        due("9 first", Nets.set(0, 1, 4), x.maximal(0));
+        due("9 second", Nets.set(1, 2), x.maximal(1));
+        due("9 third", Nets.set(2, 3), x.maximal(2));
         due("9 beyond", BAD, x.maximal(3));
         due("9 below", BAD, x.maximal(-1));
         due("9 far off", BAD, x.maximal(MOST));
         due("9 far off below", BAD, x.maximal(LEAST));
         x.edge(1, 4, false);
-        due("9 behind a change, 0", set(0, 1), x.maximal(0));
-        due("9 behind a change, 1", set(0, 4), x.maximal(1));
+        due("9 behind a change, 0", Nets.set(0, 1), x.maximal(0));
+        due("9 behind a change, 1", Nets.set(0, 4), x.maximal(1));
         x.node(1);
-        due("9 behind a node more", set(5), x.maximal(4));
-        CliqueSearch most = threesAndFour();
-        due("9 first of 324", set(0, 3, 6, 9, 12), most.maximal(0));
-        due("9 fourth of 324", set(0, 3, 6, 9, 15), most.maximal(3));
-        due("9 last of 324", set(2, 5, 8, 11, 15), most.maximal(323));
+        due("9 behind a node more", Nets.set(5), x.maximal(4));
+        CliqueSearch most = Nets.parts(3, 3, 3, 3, 4);
+        due("9 first of 324", Nets.set(0, 3, 6, 9, 12), most.maximal(0));
+        due("9 fourth of 324", Nets.set(0, 3, 6, 9, 15), most.maximal(3));
+        due("9 last of 324", Nets.set(2, 5, 8, 11, 15), most.maximal(323));
         due("9 beyond 324", BAD, most.maximal(324));
     }
 
@@ -265,13 +216,13 @@ public final class PromiseTest {
         due("10 -1", BAD, none.cliques(-1));
         due("10 17", BAD, none.cliques(17));
         due("10 far off", BAD, none.cliques(MOST));
-        CliqueSearch all = fullNet(16);
+        CliqueSearch all = Nets.fullNet(16);
         int ways = 1;
         for (int k = 0; k <= 16; k++) {
             due("10 all joined, " + k, ways, all.cliques(k));
             ways = ways * (16 - k) / (k + 1);
         }
-        CliqueSearch x = net(5, 0, 1, 1, 2, 0, 2, 2, 3);
+        CliqueSearch x = Nets.net(5, 0, 1, 1, 2, 0, 2, 2, 3);
         due("10 of 0", 1, x.cliques(0));
         due("10 of 1", 5, x.cliques(1));
         due("10 of 2", 4, x.cliques(2));
@@ -284,28 +235,28 @@ public final class PromiseTest {
     // 11
     private static void cover() {
         due("11 no nodes", 0, new CliqueSearch().cover());
-        due("11 no edges", 0, net(16).cover());
-        due("11 an edge", set(3), net(16, 15, 3).cover());
-        due("11 all joined", 32767, fullNet(16).cover());
-        due("11 a star", set(9), net(12, 9, 0, 9, 4, 9, 11).cover());
-        due("11 a row", set(0, 2), net(4, 0, 1, 1, 2, 2, 3).cover());
-        due("11 a ring of five", set(0, 1, 3), ring(5).cover());
+        due("11 no edges", 0, Nets.net(16).cover());
+        due("11 an edge", Nets.set(3), Nets.net(16, 15, 3).cover());
+        due("11 all joined", 32767, Nets.fullNet(16).cover());
+        due("11 a star", Nets.set(9), Nets.net(12, 9, 0, 9, 4, 9, 11).cover());
+        due("11 a row", Nets.set(0, 2), Nets.net(4, 0, 1, 1, 2, 2, 3).cover());
+        due("11 a ring of five", Nets.set(0, 1, 3), Nets.ring(5).cover());
         // The complement of apart() would be {1, 3}.
-        due("11 not what apart() leaves", set(0, 2), ring(4).cover());
+        due("11 not what apart() leaves", Nets.set(0, 2), Nets.ring(4).cover());
     }
 
     // 12
     private static void apart() {
         due("12 no nodes", 0, new CliqueSearch().apart());
-        due("12 no edges", 65535, net(16).apart());
-        due("12 all joined", set(0), fullNet(16).apart());
-        due("12 a ring of four", set(0, 2), ring(4).apart());
-        due("12 a ring of five", set(0, 2), ring(5).apart());
-        due("12 a star", set(0, 1, 3, 4), net(5, 2, 0, 2, 1, 2, 3, 2, 4).apart());
-        CliqueSearch x = net(3, 0, 1, 0, 2);
-        due("12 without the first node", set(1, 2), x.apart());
+        due("12 no edges", 65535, Nets.net(16).apart());
+        due("12 all joined", Nets.set(0), Nets.fullNet(16).apart());
+        due("12 a ring of four", Nets.set(0, 2), Nets.ring(4).apart());
+        due("12 a ring of five", Nets.set(0, 2), Nets.ring(5).apart());
+        due("12 a star", Nets.set(0, 1, 3, 4), Nets.net(5, 2, 0, 2, 1, 2, 3, 2, 4).apart());
+        CliqueSearch x = Nets.net(3, 0, 1, 0, 2);
+        due("12 without the first node", Nets.set(1, 2), x.apart());
         x.edge(1, 2, true);
-        due("12 behind a change", set(0), x.apart());
+        due("12 behind a change", Nets.set(0), x.apart());
     }
 
     // 13
@@ -317,53 +268,53 @@ public final class PromiseTest {
         due("13 s 5", BAD, none.near(5));
         due("13 s -1", BAD, none.near(-1));
         due("13 s far off", BAD, none.near(MOST));
-        CliqueSearch apart = net(16);
+        CliqueSearch apart = Nets.net(16);
         for (int s = 1; s <= 4; s++) {
             due("13 no edges, " + s, (1 << s) - 1, apart.near(s));
         }
-        CliqueSearch all = fullNet(16);
+        CliqueSearch all = Nets.fullNet(16);
         due("13 all joined, 1", 65535, all.near(1));
         due("13 all joined, 4", 65535, all.near(4));
         all.edge(0, 15, false);
         due("13 but for one edge, 1", 32767, all.near(1));
         due("13 but for one edge, 2", 65535, all.near(2));
-        due("13 a ring of four, 2", 15, ring(4).near(2));
-        due("13 a ring of five, 2", set(0, 1, 2), ring(5).near(2));
-        due("13 a ring of five, 3", 31, ring(5).near(3));
-        due("13 a ring of six, 4", 63, ring(6).near(4));
-        CliqueSearch x = net(7, 3, 4, 4, 5, 5, 6, 6, 3, 3, 5, 4, 6);
-        due("13 the first nodes are not of it", set(3, 4, 5, 6), x.near(1));
-        due("13 nor by 2", set(3, 4, 5, 6), x.near(2));
+        due("13 a ring of four, 2", 15, Nets.ring(4).near(2));
+        due("13 a ring of five, 2", Nets.set(0, 1, 2), Nets.ring(5).near(2));
+        due("13 a ring of five, 3", 31, Nets.ring(5).near(3));
+        due("13 a ring of six, 4", 63, Nets.ring(6).near(4));
+        CliqueSearch x = Nets.net(7, 3, 4, 4, 5, 5, 6, 6, 3, 3, 5, 4, 6);
+        due("13 the first nodes are not of it", Nets.set(3, 4, 5, 6), x.near(1));
+        due("13 nor by 2", Nets.set(3, 4, 5, 6), x.near(2));
     }
 
     // 14
     private static void colours() {
         due("14 no nodes", 0, new CliqueSearch().colours(0));
         due("14 no nodes, a bit", BAD, new CliqueSearch().colours(1));
-        due("14 all joined", 16, fullNet(16).colours(65535));
-        due("14 no edges", 1, net(16).colours(65535));
-        due("14 bit 16", BAD, net(16).colours(65536));
-        due("14 negative", BAD, net(16).colours(-1));
-        due("14 least", BAD, net(16).colours(LEAST));
-        due("14 a row", 2, net(4, 0, 1, 1, 2, 2, 3).colours(15));
+        due("14 all joined", 16, Nets.fullNet(16).colours(65535));
+        due("14 no edges", 1, Nets.net(16).colours(65535));
+        due("14 bit 16", BAD, Nets.net(16).colours(65536));
+        due("14 negative", BAD, Nets.net(16).colours(-1));
+        due("14 least", BAD, Nets.net(16).colours(LEAST));
+        due("14 a row", 2, Nets.net(4, 0, 1, 1, 2, 2, 3).colours(15));
         // Both ends get 1 first, so it takes a third colour.
-        CliqueSearch turned = net(4, 0, 2, 2, 3, 3, 1);
+        CliqueSearch turned = Nets.net(4, 0, 2, 2, 3, 3, 1);
         due("14 a row with its ends first", 3, turned.colours(15));
-        due("14 a part of it", 2, turned.colours(set(0, 2, 3)));
+        due("14 a part of it", 2, turned.colours(Nets.set(0, 2, 3)));
         due("14 none of it", 0, turned.colours(0));
         due("14 other nodes", BAD, turned.colours(16));
     }
 
     // 15
     private static void colour() {
-        CliqueSearch x = net(4, 0, 2, 2, 3, 3, 1);
+        CliqueSearch x = Nets.net(4, 0, 2, 2, 3, 3, 1);
         due("15 of 0", 1, x.colour(15, 0));
         due("15 of 1", 1, x.colour(15, 1));
         due("15 of 2", 2, x.colour(15, 2));
         due("15 of 3", 3, x.colour(15, 3));
-        due("15 of 3 without 2", 2, x.colour(set(0, 1, 3), 3));
-        due("15 of 3 alone", 1, x.colour(set(3), 3));
-        due("15 not of the set", BAD, x.colour(set(0, 1), 3));
+        due("15 of 3 without 2", 2, x.colour(Nets.set(0, 1, 3), 3));
+        due("15 of 3 alone", 1, x.colour(Nets.set(3), 3));
+        due("15 not of the set", BAD, x.colour(Nets.set(0, 1), 3));
         due("15 no node", BAD, x.colour(15, 4));
         due("15 below", BAD, x.colour(15, -1));
         due("15 a node that bits would wrap to", BAD, x.colour(15, 32));
@@ -371,14 +322,14 @@ public final class PromiseTest {
         due("15 bits of other nodes", BAD, x.colour(31, 0));
         due("15 negative", BAD, x.colour(-1, 0));
         due("15 no nodes", BAD, new CliqueSearch().colour(0, 0));
-        due("15 the 16th colour", 16, fullNet(16).colour(65535, 15));
+        due("15 the 16th colour", 16, Nets.fullNet(16).colour(65535, 15));
     }
 
     // 16
     private static void peeled() {
         due("16 no nodes", BAD, new CliqueSearch().peeled(0));
         // Degrees 2, 2, 3, 1 and 0; behind 4 and 3 the three others have two each.
-        CliqueSearch x = net(5, 0, 1, 1, 2, 0, 2, 2, 3);
+        CliqueSearch x = Nets.net(5, 0, 1, 1, 2, 0, 2, 2, 3);
         int[] order = {4, 3, 0, 1, 2};
         for (int k = 0; k < 5; k++) {
             due("16 number " + k, order[k], x.peeled(k));
@@ -389,10 +340,10 @@ public final class PromiseTest {
         x.edge(4, 2, true);
         due("16 behind a change, 0", 3, x.peeled(0));
         due("16 behind a change, 1", 4, x.peeled(1));
-        due("16 the last of 16", 15, net(16).peeled(15));
-        due("16 no 17th", BAD, net(16).peeled(16));
+        due("16 the last of 16", 15, Nets.net(16).peeled(15));
+        due("16 no 17th", BAD, Nets.net(16).peeled(16));
         // A star: the middle is first among the last two, as both have one neighbour.
-        CliqueSearch star = net(4, 0, 1, 0, 2, 0, 3);
+        CliqueSearch star = Nets.net(4, 0, 1, 0, 2, 0, 3);
         due("16 star 0", 1, star.peeled(0));
         due("16 star 1", 2, star.peeled(1));
         due("16 star 2", 0, star.peeled(2));
@@ -402,7 +353,7 @@ public final class PromiseTest {
     // 17
     private static void core() {
         due("17 no nodes", BAD, new CliqueSearch().core(0));
-        CliqueSearch x = net(5, 0, 1, 1, 2, 0, 2, 2, 3);
+        CliqueSearch x = Nets.net(5, 0, 1, 1, 2, 0, 2, 2, 3);
         int[] cores = {2, 2, 2, 1, 0};
         for (int v = 0; v < 5; v++) {
             due("17 of " + v, cores[v], x.core(v));
@@ -412,8 +363,8 @@ public final class PromiseTest {
         due("17 far off", BAD, x.core(LEAST));
         x.edge(0, 1, false);
         due("17 behind a change", 1, x.core(2));
-        due("17 all joined", 15, fullNet(16).core(15));
-        due("17 the most up to it", 1, net(4, 0, 1, 0, 2, 0, 3).core(3));
+        due("17 all joined", 15, Nets.fullNet(16).core(15));
+        due("17 the most up to it", 1, Nets.net(4, 0, 1, 0, 2, 0, 3).core(3));
     }
 
     // 18
@@ -425,26 +376,26 @@ public final class PromiseTest {
         due("18 work far off", BAD, none.search(LEAST));
         due("18 no nodes", 0, none.search(1));
         tells("18 no nodes", none, 0, 0, 1, 0, 0);
-        due("18 all joined", 65535, fullNet(16).search(100000));
-        CliqueSearch apart = net(16);
-        due("18 no edges: the greatest number first", set(15), apart.search(100000));
+        due("18 all joined", 65535, Nets.fullNet(16).search(100000));
+        CliqueSearch apart = Nets.net(16);
+        due("18 no edges: the greatest number first", Nets.set(15), apart.search(100000));
         tells("18 no edges", apart, 1, 1, 2, 1, 0);
         // Colours 1 1 2 3: node 3 finds {2, 3} and cuts 1; then node 2 is cut.
-        CliqueSearch row = net(4, 0, 2, 2, 3, 3, 1);
-        due("18 a row with its ends first", set(2, 3), row.search(100000));
+        CliqueSearch row = Nets.net(4, 0, 2, 2, 3, 3, 1);
+        due("18 a row with its ends first", Nets.set(2, 3), row.search(100000));
         tells("18 a row with its ends first", row, 2, 2, 3, 2, 0);
         // Colours 1 1 1 2: node 3 finds {2, 3} and cuts 1; then node 2 is cut.
-        CliqueSearch star = net(4, 3, 0, 3, 1, 3, 2);
-        due("18 a star", set(2, 3), star.search(100000));
+        CliqueSearch star = Nets.net(4, 3, 0, 3, 1, 3, 2);
+        due("18 a star", Nets.set(2, 3), star.search(100000));
         tells("18 a star", star, 2, 2, 3, 2, 0);
         // Colours 1 2 1 2 3: node 4 finds {3, 4} and cuts 0; then node 3 is cut.
-        CliqueSearch five = ring(5);
-        due("18 a ring of five", set(3, 4), five.search(100000));
+        CliqueSearch five = Nets.ring(5);
+        due("18 a ring of five", Nets.set(3, 4), five.search(100000));
         tells("18 a ring of five", five, 2, 2, 3, 2, 0);
     }
 
     private static void searchCutOff() {
-        CliqueSearch all = fullNet(16);
+        CliqueSearch all = Nets.fullNet(16);
         due("18 cut off at 1", 0, all.search(1));
         tells("18 cut off at 1", all, 0, 16, 1, 0, 1);
         due("18 cut off at 16", 0, all.search(16));
@@ -453,14 +404,14 @@ public final class PromiseTest {
         tells("18 17 are enough", all, 16, 16, 17, 15, 0);
         // Colours 1 2 3 1 2 3. Node 5 finds {4, 5} and cuts 0; node 2 finds {0, 1, 2} and cuts
         // 0; then node 4 is cut.
-        CliqueSearch x = net(6, 0, 1, 0, 2, 1, 2, 3, 4, 4, 5, 0, 5);
-        due("18 late", set(0, 1, 2), x.search(100000));
+        CliqueSearch x = Nets.net(6, 0, 1, 0, 2, 1, 2, 3, 4, 4, 5, 0, 5);
+        due("18 late", Nets.set(0, 1, 2), x.search(100000));
         tells("18 late", x, 3, 3, 6, 3, 0);
-        due("18 late, 6", set(0, 1, 2), x.search(6));
+        due("18 late, 6", Nets.set(0, 1, 2), x.search(6));
         tells("18 late, 6", x, 3, 3, 6, 3, 0);
-        due("18 late, 5", set(4, 5), x.search(5));
+        due("18 late, 5", Nets.set(4, 5), x.search(5));
         tells("18 late, 5", x, 2, 3, 5, 1, 1);
-        due("18 late, 3", set(4, 5), x.search(3));
+        due("18 late, 3", Nets.set(4, 5), x.search(3));
         tells("18 late, 3", x, 2, 3, 3, 1, 1);
         due("18 late, 2", 0, x.search(2));
         tells("18 late, 2", x, 0, 3, 2, 0, 1);
@@ -474,7 +425,7 @@ public final class PromiseTest {
 
     // 19
     private static void searched() {
-        CliqueSearch x = fullNet(3);
+        CliqueSearch x = Nets.fullNet(3);
         tells("19 before", x, 0, 0, 0, 0, 0);
         due("19 BAD before", BAD, x.search(0));
         tells("19 behind a BAD one", x, 0, 0, 0, 0, 0);
@@ -503,29 +454,29 @@ public final class PromiseTest {
         due("20 k far off", BAD, none.sure(LEAST));
         due("20 no nodes, 0", 0, none.sure(0));
         due("20 no nodes, 16", 0, none.sure(16));
-        due("20 no edges, 0", 0, net(16).sure(0));
-        due("20 an edge, 0", NONE, net(2, 0, 1).sure(0));
-        due("20 an edge, 1", 0, net(2, 0, 1).sure(1));
-        due("20 all joined, 16", 65535, fullNet(16).sure(16));
-        due("20 all joined, 15", 65535, fullNet(16).sure(15));
-        due("20 all joined, 14", NONE, fullNet(16).sure(14));
+        due("20 no edges, 0", 0, Nets.net(16).sure(0));
+        due("20 an edge, 0", NONE, Nets.net(2, 0, 1).sure(0));
+        due("20 an edge, 1", 0, Nets.net(2, 0, 1).sure(1));
+        due("20 all joined, 16", 65535, Nets.fullNet(16).sure(16));
+        due("20 all joined, 15", 65535, Nets.fullNet(16).sure(15));
+        due("20 all joined, 14", NONE, Nets.fullNet(16).sure(14));
         // Each of a ring of five has two: at 2 none of the rules holds, but 5 > 2 * 2.
-        due("20 a ring of five, 3", 31, ring(5).sure(3));
-        due("20 a ring of five, 2", NONE, ring(5).sure(2));
+        due("20 a ring of five, 3", 31, Nets.ring(5).sure(3));
+        due("20 a ring of five, 2", NONE, Nets.ring(5).sure(2));
         // With 4 of 4 edges it is left as it is.
-        due("20 a ring of four, 2", 15, ring(4).sure(2));
-        due("20 a ring of four, 1", NONE, ring(4).sure(1));
+        due("20 a ring of four, 2", 15, Nets.ring(4).sure(2));
+        due("20 a ring of four, 1", NONE, Nets.ring(4).sure(1));
         // The middle of a star goes by rule 2 at 2, by rule 3 at 3.
-        due("20 a star, 2", 0, net(4, 3, 0, 3, 1, 3, 2).sure(2));
-        due("20 a star, 3", 0, net(4, 3, 0, 3, 1, 3, 2).sure(3));
+        due("20 a star, 2", 0, Nets.net(4, 3, 0, 3, 1, 3, 2).sure(2));
+        due("20 a star, 3", 0, Nets.net(4, 3, 0, 3, 1, 3, 2).sure(3));
         // A triangle with a tail: node 0 goes by rule 2 (3 > 2), then node 2 by rule 3.
-        due("20 a tail", 0, net(4, 0, 1, 1, 2, 2, 0, 0, 3).sure(2));
-        due("20 a tail, 1", NONE, net(4, 0, 1, 1, 2, 2, 0, 0, 3).sure(1));
+        due("20 a tail", 0, Nets.net(4, 0, 1, 1, 2, 2, 0, 0, 3).sure(2));
+        due("20 a tail, 1", NONE, Nets.net(4, 0, 1, 1, 2, 2, 0, 0, 3).sure(1));
     }
 
     // 21
     private static void taken() {
-        CliqueSearch x = net(5, 0, 1, 1, 2, 2, 3);
+        CliqueSearch x = Nets.net(5, 0, 1, 1, 2, 2, 3);
         due("21 before, 0", 0, x.taken(0));
         due("21 before, 1", 0, x.taken(1));
         due("21 what -1", BAD, x.taken(-1));
@@ -536,68 +487,70 @@ public final class PromiseTest {
         due("21 behind NONE, 1", 0, x.taken(1));
         // Rule 1 for node 4, rule 3 for node 0 (1 is taken), then for node 2 (3 is taken).
         due("21 sure(4)", 0, x.sure(4));
-        due("21 of 4, 0", set(1, 3), x.taken(0));
+        due("21 of 4, 0", Nets.set(1, 3), x.taken(0));
         due("21 of 4, 1", 2, x.taken(1));
         x.sure(17);
         x.sure(-1);
-        due("21 behind BAD", set(1, 3), x.taken(0));
+        due("21 behind BAD", Nets.set(1, 3), x.taken(0));
         x.sure(0);
-        due("21 behind NONE again, 0", set(1, 3), x.taken(0));
+        due("21 behind NONE again, 0", Nets.set(1, 3), x.taken(0));
         due("21 behind NONE again, 1", 2, x.taken(1));
         x.edge(0, 1, false);
-        due("21 as it was then", set(1, 3), x.taken(0));
+        due("21 as it was then", Nets.set(1, 3), x.taken(0));
         due("21 sure(3)", 0, x.sure(3));
-        due("21 of 3, 0", set(2), x.taken(0));
+        due("21 of 3, 0", Nets.set(2), x.taken(0));
         due("21 of 3, 1", 2, x.taken(1));
         // Rule 2 goes before rule 3 for node 1, which has one neighbour.
-        CliqueSearch y = net(7, 0, 1, 0, 2, 0, 4, 3, 4, 3, 5, 3, 6);
+        CliqueSearch y = Nets.net(7, 0, 1, 0, 2, 0, 4, 3, 4, 3, 5, 3, 6);
         due("21 two stars", 0, y.sure(2));
-        due("21 two stars, 0", set(0, 3), y.taken(0));
+        due("21 two stars, 0", Nets.set(0, 3), y.taken(0));
         due("21 two stars, 1", 0, y.taken(1));
         // Rule 2 by k as it is then: 0 and 2 have three, which is too many once 5 is taken.
-        CliqueSearch z = net(6, 0, 1, 1, 2, 2, 3, 3, 0, 0, 2, 4, 5);
+        CliqueSearch z = Nets.net(6, 0, 1, 1, 2, 2, 3, 3, 0, 0, 2, 4, 5);
         due("21 rule 2 behind rule 3", 0, z.sure(3));
-        due("21 rule 2 behind rule 3, 0", set(0, 2, 5), z.taken(0));
+        due("21 rule 2 behind rule 3, 0", Nets.set(0, 2, 5), z.taken(0));
         due("21 rule 2 behind rule 3, 1", 0, z.taken(1));
         due("21 no rule behind rule 3", 15, z.sure(4));
-        due("21 no rule behind rule 3, 0", set(5), z.taken(0));
+        due("21 no rule behind rule 3, 0", Nets.set(5), z.taken(0));
         due("21 no rule behind rule 3, 1", 3, z.taken(1));
     }
 
     // 22
     private static void sides() {
         due("22 no nodes", 0, new CliqueSearch().sides());
-        due("22 no edges", 0, net(16).sides());
-        due("22 an edge", set(15), net(16, 15, 2).sides());
-        due("22 a ring of three", NONE, ring(3).sides());
-        due("22 a ring of 15", NONE, ring(15).sides());
-        due("22 a ring of 16", 0xAAAA, ring(16).sides());
-        due("22 two parts", set(1, 2, 4), net(6, 0, 1, 0, 2, 3, 4, 4, 5).sides());
-        due("22 one part without sides", NONE, net(6, 0, 1, 2, 3, 3, 4, 4, 2).sides());
+        due("22 no edges", 0, Nets.net(16).sides());
+        due("22 an edge", Nets.set(15), Nets.net(16, 15, 2).sides());
+        due("22 a ring of three", NONE, Nets.ring(3).sides());
+        due("22 a ring of 15", NONE, Nets.ring(15).sides());
+        due("22 a ring of 16", 0xAAAA, Nets.ring(16).sides());
+        due("22 two parts", Nets.set(1, 2, 4), Nets.net(6, 0, 1, 0, 2, 3, 4, 4, 5).sides());
+        due("22 one part without sides", NONE, Nets.net(6, 0, 1, 2, 3, 3, 4, 4, 2).sides());
         // The least node is on side 0 though it is met last along the row.
-        due("22 a row", set(3, 1), net(4, 1, 2, 2, 3, 3, 0).sides());
+        due("22 a row", Nets.set(3, 1), Nets.net(4, 1, 2, 2, 3, 3, 0).sides());
     }
 
     // 23
     private static void pairs() {
         due("23 no nodes", 0, new CliqueSearch().pairs());
-        due("23 no edges", 0, net(16).pairs());
-        due("23 all joined", 8, fullNet(16).pairs());
-        due("23 15 all joined", 7, fullNet(15).pairs());
-        due("23 a star", 1, net(5, 2, 0, 2, 1, 2, 3, 2, 4).pairs());
-        due("23 a row, its middle first", 2, net(4, 0, 1, 0, 2, 1, 3).pairs());
-        due("23 a ring of 15", 7, ring(15).pairs());
-        due("23 two triangles at one node", 2, net(5, 0, 1, 1, 2, 2, 0, 2, 3, 3, 4, 4, 2).pairs());
+        due("23 no edges", 0, Nets.net(16).pairs());
+        due("23 all joined", 8, Nets.fullNet(16).pairs());
+        due("23 15 all joined", 7, Nets.fullNet(15).pairs());
+        due("23 a star", 1, Nets.net(5, 2, 0, 2, 1, 2, 3, 2, 4).pairs());
+        due("23 a row, its middle first", 2, Nets.net(4, 0, 1, 0, 2, 1, 3).pairs());
+        due("23 a ring of 15", 7, Nets.ring(15).pairs());
+        due("23 two triangles at one node", 2,
+                Nets.net(5, 0, 1, 1, 2, 2, 0, 2, 3, 3, 4, 4, 2).pairs());
         // Two rings of five whose tails need a way through both of them.
-        due("23 through rings", 6, net(12, 0, 1, 1, 2, 2, 3, 3, 4, 4, 0, 5, 6, 6, 7, 7, 8, 8, 9,
+        due("23 through rings", 6,
+                Nets.net(12, 0, 1, 1, 2, 2, 3, 3, 4, 4, 0, 5, 6, 6, 7, 7, 8, 8, 9,
                 9, 5, 2, 7, 10, 0, 11, 9).pairs());
-        due("23 three triangles around a node", 4, net(10, 0, 1, 1, 2, 2, 0, 3, 4, 4, 5, 5, 3,
+        due("23 three triangles around a node", 4, Nets.net(10, 0, 1, 1, 2, 2, 0, 3, 4, 4, 5, 5, 3,
                 6, 7, 7, 8, 8, 6, 9, 0, 9, 3, 9, 6).pairs());
     }
 
     // 24
     private static void count() {
-        CliqueSearch x = net(6, 0, 1, 1, 2, 4, 5);
+        CliqueSearch x = Nets.net(6, 0, 1, 1, 2, 4, 5);
         x.weight(5, 1000);
         due("24 nodes", 6, x.count(0));
         due("24 edges", 3, x.count(1));
@@ -610,14 +563,14 @@ public final class PromiseTest {
         x.edge(3, 4, true);
         due("24 one part", 1, x.count(3));
         due("24 edges then", 5, x.count(1));
-        due("24 16 parts", 16, net(16).count(3));
-        due("24 120 edges", 120, fullNet(16).count(1));
-        due("24 a long row is one part", 1, net(16, 0, 15, 15, 1, 1, 14, 14, 2, 2, 13, 13, 3, 3,
-                12, 12, 4, 4, 11, 11, 5, 5, 10, 10, 6, 6, 9, 9, 7, 7, 8).count(3));
+        due("24 16 parts", 16, Nets.net(16).count(3));
+        due("24 120 edges", 120, Nets.fullNet(16).count(1));
+        due("24 a long row is one part", 1,
+                Nets.net(16, 0, 15, 15, 1, 1, 14, 14, 2, 2, 13, 13, 3, 3, 12, 12, 4, 4, 11, 11, 5, 5, 10, 10, 6, 6, 9, 9, 7, 7, 8).count(3));
     }
 
     private static void wrongCallsChangeNothing() {
-        CliqueSearch x = net(4, 0, 1, 1, 2);
+        CliqueSearch x = Nets.net(4, 0, 1, 1, 2);
         x.search(100);
         x.sure(2);
         int[] wrong = {
@@ -633,6 +586,6 @@ public final class PromiseTest {
         due("edges behind wrong calls", 2, x.count(1));
         due("weights behind wrong calls", 4, x.count(2));
         due("LOWER behind wrong calls", 2, x.searched(0));
-        due("taken behind wrong calls", set(1), x.taken(0));
+        due("taken behind wrong calls", Nets.set(1), x.taken(0));
     }
 }
