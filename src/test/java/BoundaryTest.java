@@ -1,4 +1,5 @@
 import java.io.IOException;
+import java.nio.file.Files;
 import java.nio.file.Path;
 import java.util.List;
 
@@ -10,13 +11,19 @@ public final class BoundaryTest {
 
     public static void main(String[] args) throws IOException {
         Sentences s = new Sentences();
-        new TermBoundaries(s).all();
-        new NetBoundaries(s).all();
-        new CliqueBoundaries(s).all();
-        new ColourBoundaries(s).all();
-        new SearchBoundaries(s).all();
-        new CoverBoundaries(s).all();
-        s.compareWith(new Document(Path.of("../shared/DOC.md")), WITHOUT_TEST);
+        s.test(new TermBoundaries(s)::all);
+        s.test(new NetBoundaries(s)::all);
+        s.test(new CliqueBoundaries(s)::all);
+        s.test(new ColourBoundaries(s)::all);
+        s.test(new SearchBoundaries(s)::all);
+        s.test(new CoverBoundaries(s)::all);
+        Path file = Path.of("../shared/DOC.md");
+        if (Files.isReadable(file)) {
+            s.compareWith(new Document(file), WITHOUT_TEST);
+        } else {
+            // The answers can be tested without it; only what was quoted can't be looked up.
+            System.out.println("BoundaryTest: " + file + " is not there to be compared with");
+        }
         s.finish();
     }
 }

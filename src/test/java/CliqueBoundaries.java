@@ -140,10 +140,12 @@ final class CliqueBoundaries {
         CliqueSearch[] nets = {new CliqueSearch(), Nets.net(16), Nets.used(), Nets.ring(16),
             Nets.parts(3, 3, 3, 3, 4), Nets.fullNet(16)};
         for (CliqueSearch x : nets) {
-            for (int k = 1; k < x.maximal() && k < 200; k++) {
-                int one = x.maximal(k - 1);
-                s.holds("maximal(" + k + ") does not begin as the one ahead",
-                        (one & ~x.maximal(k)) != 0);
+            int howMany = x.maximal();
+            int ahead = x.maximal(0);
+            for (int k = 1; k < howMany; k++) {
+                int row = x.maximal(k);
+                s.holds("maximal(" + k + ") does not begin as the one ahead", (ahead & ~row) != 0);
+                ahead = row;
             }
         }
         s.due("maximal() of one NODE: none is no row of its own", 1, Nets.net(1).maximal());

@@ -542,8 +542,8 @@ public final class PromiseTest {
                 Nets.net(5, 0, 1, 1, 2, 2, 0, 2, 3, 3, 4, 4, 2).pairs());
         // Two rings of five whose tails need a way through both of them.
         due("23 through rings", 6,
-                Nets.net(12, 0, 1, 1, 2, 2, 3, 3, 4, 4, 0, 5, 6, 6, 7, 7, 8, 8, 9,
-                9, 5, 2, 7, 10, 0, 11, 9).pairs());
+                Nets.net(12, 0, 1, 1, 2, 2, 3, 3, 4, 4, 0, 5, 6, 6, 7, 7, 8, 8, 9, 9, 5, 2, 7, 10,
+                        0, 11, 9).pairs());
         due("23 three triangles around a node", 4, Nets.net(10, 0, 1, 1, 2, 2, 0, 3, 4, 4, 5, 5, 3,
                 6, 7, 7, 8, 8, 6, 9, 0, 9, 3, 9, 6).pairs());
     }
@@ -566,7 +566,8 @@ public final class PromiseTest {
         due("24 16 parts", 16, Nets.net(16).count(3));
         due("24 120 edges", 120, Nets.fullNet(16).count(1));
         due("24 a long row is one part", 1,
-                Nets.net(16, 0, 15, 15, 1, 1, 14, 14, 2, 2, 13, 13, 3, 3, 12, 12, 4, 4, 11, 11, 5, 5, 10, 10, 6, 6, 9, 9, 7, 7, 8).count(3));
+                Nets.net(16, 0, 15, 15, 1, 1, 14, 14, 2, 2, 13, 13, 3, 3, 12, 12, 4, 4, 11, 11, 5,
+                        5, 10, 10, 6, 6, 9, 9, 7, 7, 8).count(3));
     }
 
     private static void wrongCallsChangeNothing() {

@@ -244,6 +244,11 @@ final class Reference {
 
     // ---- the search
 
+    void forgetTold() {
+        Arrays.fill(told, 0);
+        Arrays.fill(tookTold, 0);
+    }
+
     int search(int work) {
         best = new ArrayList<>();
         workLeft = work;

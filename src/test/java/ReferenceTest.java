@@ -4,10 +4,13 @@ import java.util.List;
 public final class ReferenceTest {
     private static final Check check = new Check("ReferenceTest");
     private static final int[] WORKS = {1, 2, 3, 4, 5, 7, 9, 12, 17, 25, 100000};
+    /** Nothing is promised about an object behind so many calls. */
+    private static final int MOST_CALLS = 512;
 
     private long state = 20261115;
 
     private CliqueSearch x;
+    private int calls;
     private Reference due;
     private String net;
 
@@ -37,8 +40,32 @@ public final class ReferenceTest {
 
     private void start(String name) {
         x = new CliqueSearch();
+        calls = 0;
         due = new Reference();
         net = name;
+    }
+
+    private void roomFor(int more) {
+        if (calls + more > MOST_CALLS) {
+            renew();
+        }
+    }
+
+    /** Goes on with a new object of the same net. */
+    private void renew() {
+        x = new CliqueSearch();
+        calls = 0;
+        due.forgetTold();
+        for (int v = 0; v < due.nodes(); v++) {
+            expect("node", v, x.node(due.weights.get(v)));
+        }
+        for (int a = 0; a < due.nodes(); a++) {
+            for (int b = 0; b < a; b++) {
+                if (due.joined[a][b]) {
+                    expect("edge " + a + " " + b, 0, x.edge(a, b, true));
+                }
+            }
+        }
     }
 
     private void addNodes(int n) {
@@ -64,9 +91,21 @@ public final class ReferenceTest {
         joinAll(percent);
         everyCall();
         for (int change = 0; change < 2 && due.nodes() > 1; change++) {
+            // The same object is asked ahead of the change: what it keeps must not be told later.
+            renew();
+            callsThatKeep();
             changeSomething();
-            everyCall();
+            callsThatKeep();
         }
+    }
+
+    private void callsThatKeep() {
+        cliqueCalls();
+        peelingCalls();
+        colourCalls(1);
+        searchCalls(100000);
+        sure(next(17));
+        otherCalls();
     }
 
     private void joinAll(int percent) {
@@ -127,6 +166,10 @@ public final class ReferenceTest {
     }
 
     private void expect(String call, long want, long got) {
+        calls++;
+        if (calls > MOST_CALLS) {
+            check.holds("no object is asked more than 512 times", false);
+        }
         if (want != got) {
             check.due(net + ": " + call, want, got);
         } else {
@@ -135,25 +178,19 @@ public final class ReferenceTest {
     }
 
     private void everyCall() {
-        int n = due.nodes();
-        for (int v = 0; v < n; v++) {
-            expect("neighbours " + v, due.neighbours(v), x.neighbours(v));
-        }
+        roomFor(400);
         cliqueCalls();
-        colourCalls();
+        roomFor(100);
+        peelingCalls();
+        otherCalls();
+        roomFor(200);
+        colourCalls(6);
+        roomFor(200);
         for (int work : WORKS) {
-            expect("search " + work, due.search(work), x.search(work));
-            for (int what = 0; what < 5; what++) {
-                expect("searched " + what + " of " + work, due.told[what], x.searched(what));
-            }
+            searchCalls(work);
         }
         for (int k = 0; k <= 16; k++) {
             sure(k);
-        }
-        expect("sides", due.sides(), x.sides());
-        expect("pairs", due.pairs(), x.pairs());
-        for (int what = 0; what < 4; what++) {
-            expect("count " + what, due.count(what), x.count(what));
         }
     }
 
@@ -177,9 +214,9 @@ public final class ReferenceTest {
         }
     }
 
-    private void colourCalls() {
+    private void colourCalls(int rounds) {
         int n = due.nodes();
-        for (int round = 0; round < 6; round++) {
+        for (int round = 0; round < rounds; round++) {
             int set = round == 0 ? (1 << n) - 1 : next(1 << n);
             int[] colours = due.colours(set);
             expect("colours " + set, Reference.top(colours), x.colours(set));
@@ -188,6 +225,10 @@ public final class ReferenceTest {
                         colours[v] == 0 ? CliqueSearch.BAD : colours[v], x.colour(set, v));
             }
         }
+    }
+
+    private void peelingCalls() {
+        int n = due.nodes();
         int[] peeling = due.peeling();
         for (int k = 0; k < n; k++) {
             expect("peeled " + k, peeling[k], x.peeled(k));
@@ -195,9 +236,27 @@ public final class ReferenceTest {
         }
     }
 
+    private void searchCalls(int work) {
+        expect("search " + work, due.search(work), x.search(work));
+        for (int what = 0; what < 5; what++) {
+            expect("searched " + what + " of " + work, due.told[what], x.searched(what));
+        }
+    }
+
     private void sure(int k) {
         expect("sure " + k, due.sure(k), x.sure(k));
         expect("taken 0 of " + k, due.tookTold[0], x.taken(0));
         expect("taken 1 of " + k, due.tookTold[1], x.taken(1));
+    }
+
+    private void otherCalls() {
+        for (int v = 0; v < due.nodes(); v++) {
+            expect("neighbours " + v, due.neighbours(v), x.neighbours(v));
+        }
+        expect("sides", due.sides(), x.sides());
+        expect("pairs", due.pairs(), x.pairs());
+        for (int what = 0; what < 4; what++) {
+            expect("count " + what, due.count(what), x.count(what));
+        }
     }
 }

@@ -16,9 +16,7 @@ public final class RoomTest {
         long start = bean.getCurrentThreadAllocatedBytes();
         CliqueSearch x = new CliqueSearch();
         long made = bean.getCurrentThreadAllocatedBytes();
-        for (int round = 0; round < 8; round++) {
-            everyCall(x);
-        }
+        everyCall(x);
         long called = bean.getCurrentThreadAllocatedBytes();
 
         check.holds("an object takes " + (made - start) + " bytes",
@@ -29,7 +27,7 @@ public final class RoomTest {
     }
 
     private static void everyCall(CliqueSearch x) {
-        for (int v = 0; v < 3; v++) {
+        for (int v = 0; v < 16; v++) {
             x.node(v + 1);
         }
         int n = x.count(0);

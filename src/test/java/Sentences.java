@@ -16,6 +16,15 @@ final class Sentences {
     private final Map<String, TreeSet<String>> quoted = new TreeMap<>();
     private String sentence = "";
 
+    /** Runs tests; if the class throws, that is told with the sentence too. */
+    void test(Runnable tests) {
+        try {
+            tests.run();
+        } catch (RuntimeException | StackOverflowError e) {
+            holds("no call throws, but there was " + e, false);
+        }
+    }
+
     /** From here on the tests stand for these words below that heading, for such a promise. */
     void says(String heading, String words, String promise) {
         quoted.computeIfAbsent(heading, h -> new TreeSet<>()).add(words);
