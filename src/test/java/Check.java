@@ -1,13 +1,23 @@
 /** Counts the calls whose answer is not the one that is due, and tells each of them. */
 final class Check {
-    private static final int MOST_TOLD = 50;
-
     private final String test;
+    private final int mostTold;
     private int calls;
     private int wrong;
+    private int toldOfGroup;
 
     Check(String test) {
+        this(test, 50);
+    }
+
+    /** Of each group so many faults are told, and all are counted. */
+    Check(String test, int mostTold) {
         this.test = test;
+        this.mostTold = mostTold;
+    }
+
+    void nextGroup() {
+        toldOfGroup = 0;
     }
 
     void due(String call, long want, long got) {
@@ -26,7 +36,8 @@ final class Check {
 
     private void fault(String what) {
         wrong++;
-        if (wrong <= MOST_TOLD) {
+        toldOfGroup++;
+        if (toldOfGroup <= mostTold) {
             System.out.println(test + ": " + what);
         }
     }

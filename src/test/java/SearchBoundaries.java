@@ -250,6 +250,12 @@ final class SearchBoundaries {
         before.search(0);
         before.search(MOST_WORK + 1);
         tells("none but BAD ones", before, 0, 0, 0, 0, 0);
+        CliqueSearch three = Nets.fullNet(3);
+        three.search(MOST_WORK);
+        three.edge(0, 1, false);
+        three.edge(1, 2, false);
+        three.edge(0, 2, false);
+        tells("three that were all joined then", three, 3, 3, 4, 2, 0);
         CliqueSearch x = Nets.used();
         x.edge(0, 1, false);
         tells("six behind an EDGE less", x, 2, 3, 5, 1, 1);

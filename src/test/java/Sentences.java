@@ -12,7 +12,8 @@ final class Sentences {
     static final int LEAST = Integer.MIN_VALUE;
     static final int MOST = Integer.MAX_VALUE;
 
-    private final Check check = new Check("BoundaryTest");
+    /** Few faults of each sentence, so that every sentence that is broken is told. */
+    private final Check check = new Check("BoundaryTest", 4);
     private final Map<String, TreeSet<String>> quoted = new TreeMap<>();
     private String sentence = "";
 
@@ -28,6 +29,7 @@ final class Sentences {
     /** From here on the tests stand for these words below that heading, for such a promise. */
     void says(String heading, String words, String promise) {
         quoted.computeIfAbsent(heading, h -> new TreeSet<>()).add(words);
+        check.nextGroup();
         sentence = heading + (promise.isEmpty() ? "" : ", for promise " + promise)
                 + ", '" + words + "': ";
     }
@@ -70,6 +72,7 @@ final class Sentences {
 
     /** That what was quoted stands in the document, and that no sentence there is without test. */
     void compareWith(Document document, List<String> untested) {
+        check.nextGroup();
         sentence = "";
         quoted.forEach((heading, all) -> {
             for (String words : all) {
