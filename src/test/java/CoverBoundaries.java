@@ -20,6 +20,7 @@ final class CoverBoundaries {
         sidesOfEachPart();
         noSidesIfThatCannotBe();
         pairsWithoutNodeInCommon();
+        pairsAroundOddRings();
 
         sureOfLeastAndGreatest();
         sureOfAnotherK();
@@ -177,8 +178,24 @@ final class CoverBoundaries {
                 Nets.net(4, 0, 1, 0, 2, 1, 3).pairs());
         s.due("pairs() of two triangles joined by an EDGE", 3,
                 Nets.net(6, 0, 1, 1, 2, 2, 0, 3, 4, 4, 5, 5, 3, 0, 3).pairs());
-        s.due("pairs() of parts of two and 14", 2,
-                Nets.parts(2, 14).pairs());
+        s.due("pairs() of parts of two and 14", 2, Nets.parts(2, 14).pairs());
+    }
+
+    /** Nets where a pair more is found, or seems to be, by a way around an odd ring. */
+    private void pairsAroundOddRings() {
+        s.term("23", "PAIRS: EDGES of which no two have a NODE in common, as many as can be.");
+        s.due("pairs() of a ring of five and a star", 3,
+                Nets.net(8, 5, 3, 3, 0, 0, 2, 2, 1, 1, 5, 7, 3, 6, 7, 4, 7).pairs());
+        s.due("pairs() of a triangle on a ring of five", 3,
+                Nets.net(8, 1, 5, 5, 3, 3, 1, 4, 3, 0, 5, 7, 1, 2, 4, 6, 1, 0, 2).pairs());
+        s.due("pairs() of nine", 4, Nets.net(9, 5, 6, 8, 1, 4, 1, 0, 2, 1, 2, 7, 1, 5, 0, 7, 2, 2,
+                3, 4, 8, 4, 3).pairs());
+        s.due("pairs() of a ring of nine, one on 2 and 0 and 7 joined", 5, Nets.net(10, 8, 2, 2, 7,
+                7, 4, 4, 3, 3, 1, 1, 0, 0, 5, 5, 6, 6, 8, 9, 2, 0, 7).pairs());
+        s.due("pairs() of a ring of nine, one on 3 and 2 and 5 joined", 5, Nets.net(10, 6, 1, 1, 5,
+                5, 0, 0, 4, 4, 7, 7, 3, 3, 2, 2, 9, 9, 6, 8, 3, 5, 2).pairs());
+        s.due("pairs() of a ring of eleven", 6, Nets.net(12, 7, 3, 3, 5, 5, 1, 1, 11, 11, 10, 10,
+                4, 4, 2, 2, 8, 8, 6, 6, 0, 0, 7, 9, 1, 2, 5).pairs());
     }
 
     // ---- the promises
