@@ -350,16 +350,16 @@ final class Reference {
     }
 
     int sides() {
+        int[] part = parts();
         for (int set = 0; set < allSets(); set++) {
-            if (areSides(set)) {
+            if (areSides(set, part)) {
                 return set;
             }
         }
         return CliqueSearch.NONE;
     }
 
-    private boolean areSides(int set) {
-        int[] part = parts();
+    private boolean areSides(int set, int[] part) {
         for (int a = 0; a < nodes(); a++) {
             if (part[a] == a && (set >> a & 1) == 1) {
                 return false;
