@@ -21,6 +21,7 @@ final class CoverBoundaries {
         noSidesIfThatCannotBe();
         pairsWithoutNodeInCommon();
         pairsAroundOddRings();
+        pairsByWaysThroughRings();
 
         sureOfLeastAndGreatest();
         sureOfAnotherK();
@@ -196,6 +197,26 @@ final class CoverBoundaries {
                 5, 0, 0, 4, 4, 7, 7, 3, 3, 2, 2, 9, 9, 6, 8, 3, 5, 2).pairs());
         s.due("pairs() of a ring of eleven", 6, Nets.net(12, 7, 3, 3, 5, 5, 1, 1, 11, 11, 10, 10,
                 4, 4, 2, 2, 8, 8, 6, 6, 0, 0, 7, 9, 1, 2, 5).pairs());
+    }
+
+    /** Nets in which ways go through rings more than once: few nets of so many nodes need that. */
+    private void pairsByWaysThroughRings() {
+        s.term("23", "PAIRS: EDGES of which no two have a NODE in common, as many as can be.");
+        s.due("pairs() of a triangle on a row", 3,
+                Nets.net(8, 0, 4, 4, 5, 6, 3, 3, 0, 7, 5, 4, 3).pairs());
+        s.due("pairs() of a triangle and a ring of four", 3,
+                Nets.net(9, 2, 3, 0, 2, 5, 0, 6, 0, 4, 3, 3, 8, 4, 0, 5, 2).pairs());
+        s.due("pairs() of a triangle, a row and a star", 3,
+                Nets.net(10, 2, 1, 0, 2, 6, 0, 3, 6, 5, 8, 9, 8, 0, 3, 1, 8).pairs());
+        s.due("pairs() of rings of seven and four", 5, Nets.net(12, 0, 3, 3, 7, 7, 2, 2, 5,
+                5, 4, 1, 0, 8, 5, 6, 1, 9, 2, 11, 3, 6, 9, 4, 7, 1, 10).pairs());
+        s.due("pairs() of rings of four and five", 5, Nets.net(13, 5, 4, 7, 5, 0, 5, 2, 7, 6, 0,
+                3, 6, 12, 10, 9, 1, 2, 4, 12, 6, 1, 0, 7, 3).pairs());
+        s.due("pairs() of rings of seven and six", 6, Nets.net(15, 11, 14, 10, 14, 7, 11,
+                1, 7, 0, 10, 2, 7, 3, 1, 5, 0, 4, 3, 12, 3, 9, 4, 13, 12, 9, 2, 1, 5).pairs());
+        s.due("pairs() of a ring of 15 and one on two of it", 8, Nets.net(16, 10, 13, 13, 14, 14,
+                11, 11, 7, 7, 1, 1, 6, 6, 12, 12, 5, 5, 3, 3, 4, 4, 8, 8, 9, 9, 0, 0, 2, 2, 10,
+                15, 13, 15, 11).pairs());
     }
 
     // ---- the promises

@@ -7,8 +7,7 @@ public final class ReferenceTest {
     /** Nothing is promised about an object behind so many calls. */
     private static final int MOST_CALLS = 512;
 
-    private long state = 20261115;
-
+    private final Numbers numbers = new Numbers(20261115);
     private CliqueSearch x;
     private int calls;
     private Reference due;
@@ -32,10 +31,8 @@ public final class ReferenceTest {
         check.finish();
     }
 
-    /** A row of numbers that is the same each time; not the library's, so that it stays so. */
     private int next(int bound) {
-        state = state * 6364136223846793005L + 1442695040888963407L;
-        return (int) ((state >>> 33) % bound);
+        return numbers.next(bound);
     }
 
     private void start(String name) {
@@ -156,13 +153,42 @@ public final class ReferenceTest {
     /** Thin nets of many nodes: that is where ways through blossoms are needed. */
     private void pairsAlone(int round) {
         start("pairs " + round);
-        addNodes(9 + next(5));
-        joinAll(8 + next(20));
+        addNodes(9 + next(8));
+        if (round % 2 == 0) {
+            joinAll(8 + next(20));
+        } else {
+            joinAroundRing();
+        }
         expect("pairs", due.pairs(), x.pairs());
         expect("sides", due.sides(), x.sides());
         for (int k = 0; k <= 16; k++) {
             sure(k);
         }
+    }
+
+    /** An odd ring through some nodes, each other node on one before it, and some edges more. */
+    private void joinAroundRing() {
+        int n = due.nodes();
+        int[] nodes = shuffled(n);
+        int ring = 5 + 2 * next((n - 5) / 2 + 1);
+        for (int i = 0; i < n; i++) {
+            join(nodes[i], nodes[i < ring ? (i + 1) % ring : next(i)], true);
+        }
+        for (int more = next(4); more > 0; more--) {
+            int a = next(n);
+            join(a, (a + 1 + next(n - 1)) % n, true);
+        }
+    }
+
+    /** The nodes in any order, as a ring by their numbers would always be gone through alike. */
+    private int[] shuffled(int n) {
+        int[] nodes = new int[n];
+        for (int i = 0; i < n; i++) {
+            int place = next(i + 1);
+            nodes[i] = nodes[place];
+            nodes[place] = i;
+        }
+        return nodes;
     }
 
     private void expect(String call, long want, long got) {

@@ -4,7 +4,6 @@ import java.util.Arrays;
 import java.util.HashMap;
 import java.util.List;
 import java.util.Map;
-import java.util.Random;
 import java.util.stream.Collectors;
 
 /** Runs of 512 calls in any order, wrong ones among them: each answer against the document's. */
@@ -18,16 +17,16 @@ public final class RunTest {
             "near slack", "colours set", "colour set node", "peeled node", "core node",
             "search work", "searched what", "searched what", "sure size", "taken what",
             "taken what", "sides", "pairs", "count what");
-    private static final List<String> TELLING_NO_MORE_THAN_ASKED = List.of("neighbours",
-            "greatest", "heaviest", "maximal", "cliques", "cover", "apart", "near", "colours",
-            "colour", "peeled", "core", "searched", "taken", "sides", "pairs", "count");
+    /** Behind these an object may answer otherwise. */
+    private static final List<String> CHANGING
+            = List.of("node", "edge", "weight", "search", "sure");
     private static final int[] WRONG = {-1, 0, 5, 16, 17, 31, 32, 33, -16, -32, 1001, 65536, 100001,
         Integer.MAX_VALUE, Integer.MIN_VALUE};
 
     private static final Check check = new Check("RunTest", MOST_TOLD);
     private static final Map<String, Method> METHODS = new HashMap<>();
 
-    private final Random random;
+    private final Numbers numbers;
     private final int mostNodes;
     private final CliqueSearch x = new CliqueSearch();
     private final Due due = new Due();
@@ -36,7 +35,7 @@ public final class RunTest {
     private int wrong;
 
     private RunTest(long seed, int mostNodes) {
-        this.random = new Random(seed);
+        this.numbers = new Numbers(seed);
         this.mostNodes = mostNodes;
     }
 
@@ -51,19 +50,19 @@ public final class RunTest {
     }
 
     private void run(String name) throws ReflectiveOperationException {
-        int nodesAtFirst = random.nextInt(mostNodes + 1);
-        int percent = random.nextInt(101);
+        int nodesAtFirst = mostNodes - numbers.next(mostNodes / 2 + 1);
+        int percent = numbers.next(101);
         for (int v = 0; v < nodesAtFirst; v++) {
             ask(name, "node", weight());
         }
         for (int a = 0; a < nodesAtFirst; a++) {
             for (int b = 0; b < a; b++) {
-                ask(name, "edge", a, b, random.nextInt(100) < percent);
+                ask(name, "edge", a, b, numbers.next(100) < percent);
             }
         }
         // Behind a wrong answer the object may hold another net than is due.
         while (calls < MOST_CALLS && wrong == 0) {
-            String[] call = CALLS.get(random.nextInt(CALLS.size())).split(" ");
+            String[] call = CALLS.get(numbers.next(CALLS.size())).split(" ");
             if (!call[0].equals("node") || due.count(0) < mostNodes || mostNodes == 16) {
                 ask(name, call[0], chosen(call, percent));
             }
@@ -73,11 +72,11 @@ public final class RunTest {
     private Object[] chosen(String[] call, int percent) {
         Object[] args = new Object[call.length - 1];
         for (int i = 0; i < args.length; i++) {
-            boolean isWrong = random.nextInt(12) == 0;
+            boolean isWrong = numbers.isOneOf(12);
             if (call[i + 1].equals("on")) {
-                args[i] = random.nextInt(100) < percent;
+                args[i] = numbers.next(100) < percent;
             } else {
-                args[i] = isWrong ? WRONG[random.nextInt(WRONG.length)] : number(call[i + 1]);
+                args[i] = isWrong ? WRONG[numbers.next(WRONG.length)] : number(call[i + 1]);
             }
         }
         return args;
@@ -89,25 +88,25 @@ public final class RunTest {
             case "weight":
                 return weight();
             case "node":
-                return random.nextInt(due.count(0) + 1);
+                return numbers.next(due.count(0) + 1);
             case "number":
-                return random.nextInt(due.maximal() + 1);
+                return numbers.next(due.maximal() + 1);
             case "size":
-                return random.nextInt(random.nextBoolean() ? 6 : 17);
+                return numbers.next(numbers.isOneOf(2) ? 6 : 17);
             case "slack":
-                return 1 + random.nextInt(4);
+                return 1 + numbers.next(4);
             case "set":
-                return random.nextInt(1 << due.count(0));
+                return numbers.next(1 << due.count(0));
             case "work":
-                return random.nextInt(3) == 0 ? 100000 : 1 + random.nextInt(30);
+                return numbers.isOneOf(3) ? 100000 : 1 + numbers.next(30);
             default:
-                return random.nextInt(5);
+                return numbers.next(5);
         }
     }
 
     /** Few weights, so that there are like ones. */
     private int weight() {
-        return random.nextInt(4) == 0 ? 1 + random.nextInt(1000) : 1 + random.nextInt(3);
+        return numbers.isOneOf(4) ? 1 + numbers.next(1000) : 1 + numbers.next(3);
     }
 
     private void ask(String name, String call, Object... args)
@@ -125,7 +124,7 @@ public final class RunTest {
             check.holds(name + ", behind" + behind + ": " + asked + " threw " + e.getCause(),
                     false);
         }
-        if (want != CliqueSearch.BAD && !TELLING_NO_MORE_THAN_ASKED.contains(call)) {
+        if (want != CliqueSearch.BAD && CHANGING.contains(call)) {
             behind.append(' ').append(asked);
         }
     }
